@@ -490,9 +490,7 @@ public final class ModelTest {
     due("size", x.size(tree), model.nodes.size());
   }
 
-  private static void compareTrees(TwigMerge x, Tree[] trees) {
-    int a = pick(3);
-    int b = pick(3);
+  private static void compareTrees(TwigMerge x, Tree[] trees, int a, int b) {
     for (Node one : trees[a].top.below()) {
       due("height", x.height(a, one.number), one.height());
       for (Node other : trees[b].top.below()) {
@@ -503,14 +501,19 @@ public final class ModelTest {
   }
 
   private static void compareResult(TwigMerge x, Tree result, Tree[] trees) {
-    for (int n = -2; n < 40; n++) {
-      Node node = result == null || n < 0 ? null : result.nodes.get(n);
+    for (int n = 0; n < 36; n++) {
+      Node node = result == null ? null : result.nodes.get(n);
       due("node(" + n + ", 0)", x.node(n, 0), node == null ? -2 : node.parent.number);
-      int place = node == null ? -2 : node.parent.children.indexOf(node);
-      due("node(" + n + ", 1)", x.node(n, 1), place);
-      due("node(" + n + ", 2)", x.node(n, 2), node == null ? -2 : node.type);
-      due("node(" + n + ", 3)", x.node(n, 3), node == null ? -2 : node.label);
+      if (node != null) {
+        due("node(" + n + ", 1)", x.node(n, 1), node.parent.children.indexOf(node));
+        due("node(" + n + ", 2)", x.node(n, 2), node.type);
+        due("node(" + n + ", 3)", x.node(n, 3), node.label);
+      }
     }
+    compareEqual(x, result, trees);
+  }
+
+  private static void compareEqual(TwigMerge x, Tree result, Tree[] trees) {
     for (int t = 0; t < 3; t++) {
       boolean want = result != null && result.top.children.size() == 1
           && result.top.children.get(0).alike(trees[t].get(0));
@@ -518,13 +521,10 @@ public final class ModelTest {
     }
   }
 
-  private static void compareDiff(TwigMerge x, Tree[] trees, int from, int to, Tree kept) {
-    Model model = new Model(trees[from], trees[to]);
-    due("diff", x.diff(from, to), model.steps.size());
-    compareResult(x, kept, trees);
+  private static void compareDiff(TwigMerge x, Model model) {
     int[] kinds = new int[4];
     for (int n = -1; n < 13; n++) {
-      Node node = trees[from].nodes.get(n);
+      Node node = model.from.nodes.get(n);
       Node partner = node == null ? null : model.partner.get(node);
       due("partner", x.partner(n), partner == null ? -1 : partner.number);
     }
@@ -539,50 +539,68 @@ public final class ModelTest {
     }
   }
 
-  private static Tree compareReplays(TwigMerge x, Tree[] trees, int from, int to) {
-    List<int[]> steps = new Model(trees[from], trees[to]).steps;
-    Tree result = trees[from].copy();
-    for (int k = 0; k <= steps.size(); k++) {
+  private static void compareReplays(TwigMerge x, Model model, Tree[] trees) {
+    Tree result = model.from.copy();
+    int looked = pick(model.steps.size() + 1);
+    for (int k = 0; k <= model.steps.size(); k++) {
       due("replay(" + k + ")", x.replay(k), result.nodes.size());
-      if (k == steps.size() || pick(6) == 0) {
+      if (k == looked) {
         compareResult(x, result, trees);
       }
-      if (k < steps.size()) {
-        result.perform(steps.get(k));
+      if (k < model.steps.size()) {
+        result.perform(model.steps.get(k));
       }
     }
-    due("replay of all steps leads to TO", x.equal(to) ? 1 : 0, 1);
-    return result;
+    compareEqual(x, result, trees);
+    boolean led = result.top.children.get(0).alike(model.to.get(0));
+    due("the model's script leads to TO", led ? 1 : 0, 1);
+  }
+
+  private static Tree[] randomTrees() {
+    int types = 1 + pick(4);
+    int labels = 1 + pick(4);
+    Tree base = randomTree(1 + pick(12), types, labels, pick(3));
+    Tree[] trees = {base, null, null};
+    for (int t = 1; t < 3; t++) {
+      trees[t] = pick(8) == 0 ? randomTree(1 + pick(12), types, labels, pick(3))
+          : edited(base, pick(9), types, labels);
+    }
+    return trees;
+  }
+
+  private static TwigMerge loaded(Tree[] trees) {
+    TwigMerge x = new TwigMerge();
+    for (int t = 0; t < 3; t++) {
+      load(x, t, trees[t]);
+    }
+    return x;
+  }
+
+  /** New objects all the time: nothing is promised of one after 512 calls. */
+  private static boolean compareAll(Tree[] trees) {
+    int from = pick(3);
+    int to = pick(3);
+    Model model = new Model(trees[from], trees[to]);
+    TwigMerge x = loaded(trees);
+    compareTrees(x, trees, from, to);
+    due("diff", x.diff(from, to), model.steps.size());
+    compareReplays(x, model, trees);
+    x = loaded(trees);
+    due("diff", x.diff(from, to), model.steps.size());
+    MergeModel merge = new MergeModel(trees[0], trees[1], trees[2]);
+    due("merge", x.merge(), merge.answer);
+    compareDiff(x, model);
+    due("diff", x.diff(to, from), new Model(trees[to], trees[from]).steps.size());
+    compareResult(x, merge.result, trees);
+    return merge.answer == 0;
   }
 
   public static void main(String[] args) {
-    int[] merged = new int[2];
-    TwigMerge x = new TwigMerge();
-    Tree kept = null;
+    int merges = 0;
     for (int round = 0; round < ROUNDS; round++) {
-      int types = 1 + pick(4);
-      int labels = 1 + pick(4);
-      Tree base = randomTree(1 + pick(12), types, labels, pick(3));
-      Tree[] trees = {base, null, null};
-      for (int t = 1; t < 3; t++) {
-        trees[t] = pick(8) == 0 ? randomTree(1 + pick(12), types, labels, pick(3))
-            : edited(base, pick(9), types, labels);
-      }
-      for (int t = 0; t < 3; t++) {
-        load(x, t, trees[t]);
-      }
-      compareTrees(x, trees);
-      int from = pick(3);
-      int to = pick(3);
-      compareDiff(x, trees, from, to, kept);
-      kept = compareReplays(x, trees, from, to);
-      MergeModel merge = new MergeModel(trees[0], trees[1], trees[2]);
-      due("merge", x.merge(), merge.answer);
-      compareResult(x, merge.result, trees);
-      kept = merge.result;
-      merged[merge.answer == 0 ? 0 : 1]++;
+      merges += compareAll(randomTrees()) ? 1 : 0;
     }
-    System.out.println(merged[0] + " merges, " + merged[1] + " conflicts");
+    System.out.println(merges + " merges, " + (ROUNDS - merges) + " conflicts");
     System.out.println(wrong == 0 ? "all answers are as due" : wrong + " answers are not as due");
     if (wrong != 0) {
       System.exit(1);
