@@ -316,7 +316,7 @@ public final class TwigMerge {
       }
     }
 
-    static boolean sameTwig(Forest a, int x, Forest b, int y, int depth) {
+    private static boolean sameTwig(Forest a, int x, Forest b, int y, int depth) {
       if (depth > DEEPEST || !a.has(x) || !b.has(y)) {
         return false;
       }
@@ -473,7 +473,10 @@ public final class TwigMerge {
       from.markBelow(fromBelow);
       to.markBelow(toBelow);
       markAlikes();
-      joinAlikes();
+      boolean again = true;
+      for (int round = 0; round < MOST_NODES && again; round++) {
+        again = joinBestAlikes();
+      }
       joinByShare();
       joinRoots();
     }
@@ -505,13 +508,7 @@ public final class TwigMerge {
       }
     }
 
-    private void joinAlikes() {
-      boolean again = true;
-      for (int round = 0; round < MOST_NODES && again; round++) {
-        again = joinBestAlikes();
-      }
-    }
-
+    /** False when there were none. */
     private boolean joinBestAlikes() {
       int bestX = NONE;
       int bestY = NONE;
@@ -631,6 +628,8 @@ public final class TwigMerge {
     final Script script;
     private final boolean[] settled;
     private final int[] row;
+    /** The places of the partners of those in the row. */
+    private final int[] places;
     private final int[] reach;
     private Forest from;
     private Forest to;
@@ -641,6 +640,7 @@ public final class TwigMerge {
       script = new Script();
       settled = new boolean[MOST_NODES];
       row = new int[MOST_NODES];
+      places = new int[MOST_NODES];
       reach = new int[MOST_NODES];
       from = new Forest(0);
       to = from;
@@ -674,12 +674,11 @@ public final class TwigMerge {
     private void settleChildren(int a, int b) {
       int size = gatherKept(a, b);
       int due = measureReach(size);
-      int last = NONE;
+      int lastPlace = NONE;
       for (int i = 0; i < size && due > 0; i++) {
-        boolean follows = last == NONE || standsBefore(last, row[i]);
-        if (reach[i] == due && follows) {
+        if (reach[i] == due && places[i] > lastPlace) {
           settled[row[i]] = true;
-          last = row[i];
+          lastPlace = places[i];
           due--;
         }
       }
@@ -692,6 +691,7 @@ public final class TwigMerge {
         int y = partners.partnerOf(x);
         if (from.parent[x] == a && y != NONE && to.parent[y] == b) {
           row[size] = x;
+          places[size] = to.place[y];
           size++;
         }
       }
@@ -704,17 +704,13 @@ public final class TwigMerge {
       for (int i = size - 1; i >= 0; i--) {
         reach[i] = 1;
         for (int j = i + 1; j < size; j++) {
-          if (standsBefore(row[i], row[j])) {
+          if (places[i] < places[j]) {
             reach[i] = Math.max(reach[i], reach[j] + 1);
           }
         }
         longest = Math.max(longest, reach[i]);
       }
       return longest;
-    }
-
-    private boolean standsBefore(int x, int other) {
-      return to.place[partners.partnerOf(x)] < to.place[partners.partnerOf(other)];
     }
 
     /** Writes the steps for y and all below it: y's counterpart. */

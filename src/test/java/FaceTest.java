@@ -55,16 +55,16 @@ public final class FaceTest {
       expect("a name of its own: " + method, isPublic || !names.contains(method.getName()));
     }
     for (Field field : TwigMerge.class.getDeclaredFields()) {
-      int modifiers = field.getModifiers();
-      expect("private: " + field, Modifier.isPrivate(modifiers));
-      expect("no static state: " + field,
-          !Modifier.isStatic(modifiers) || Modifier.isFinal(modifiers));
+      expect("private: " + field, Modifier.isPrivate(field.getModifiers()));
+      expect("no static state: " + field, !Modifier.isStatic(field.getModifiers())
+          || Modifier.isFinal(field.getModifiers()));
     }
     Constructor<?>[] constructors = TwigMerge.class.getDeclaredConstructors();
     expect("one constructor", constructors.length == 1);
     expect("public, without parameters", Modifier.isPublic(constructors[0].getModifiers())
         && constructors[0].getParameterCount() == 0);
-    expect("public and final", TwigMerge.class.getModifiers() == (Modifier.PUBLIC | Modifier.FINAL));
+    int modifiers = TwigMerge.class.getModifiers();
+    expect("public and final", modifiers == (Modifier.PUBLIC | Modifier.FINAL));
     for (Class<?> inside : TwigMerge.class.getDeclaredClasses()) {
       expect("static, and not public: " + inside, Modifier.isStatic(inside.getModifiers())
           && !Modifier.isPublic(inside.getModifiers()));

@@ -433,7 +433,9 @@ public final class ModelTest {
     Tree tree = new Tree();
     tree.add(-1, pick(types), pick(labels));
     for (int n = 1; n < size; n++) {
-      int parent = shape == 0 ? pick(n) : shape == 1 ? Math.max(0, n - 1 - pick(3)) : pick(Math.min(n, 3));
+      int deep = Math.max(0, n - 1 - pick(3));
+      int flat = pick(Math.min(n, 3));
+      int parent = shape == 0 ? pick(n) : shape == 1 ? deep : flat;
       tree.add(parent, pick(types), pick(labels));
     }
     return tree;

@@ -200,6 +200,9 @@ public final class PromiseTest {
     due("the partners too", partners(x, 3), "0 1 -1");
     due("add", x.add(0, 0, 1, 9), 2);
     due("the partners are those of then", partners(x, 3), "0 1 -1");
+    x.clear(0);
+    due("and are there without the tree", partners(x, 3), "0 1 -1");
+    load(x, 0, -1, 0, 0, 0, 1, 1, 0, 1, 9);
     due("another diff", x.diff(1, 0), 2);
     due("the result stays", result(x), "0:-1/0/0/0 1:0/0/1/5");
     due("a new script", script(x), "U 1 1, I 2 0 1 1 9");
@@ -282,6 +285,11 @@ public final class PromiseTest {
     load(x, 1, -1, 1, 1, 0, 2, 2);
     x.diff(0, 1);
     due("the root of TO is taken", partners(x, 3), "-1 0 1");
+    load(x, 0, -1, 1, 9, 0, 1, 1, 1, 2, 2);
+    x.diff(0, 1);
+    due("the root of TO is taken, and of the same type", partners(x, 3), "-1 0 1");
+    x.diff(1, 0);
+    due("the root of FROM is taken, and of the same type", partners(x, 2), "1 2");
     due("partner(-1)", x.partner(-1), -1);
     due("partner(3)", x.partner(3), -1);
     due("partner(12)", x.partner(12), -1);
