@@ -96,6 +96,36 @@ public final class FaceTest {
     }
   }
 
+  private static TwigMerge full() {
+    TwigMerge x = new TwigMerge();
+    for (int tree = 0; tree < 3; tree++) {
+      for (int n = 0; n < 12; n++) {
+        x.add(tree, n - 1, tree, n);
+      }
+    }
+    return x;
+  }
+
+  /** A run has a room for what it makes, so all rows are made by the constructor. */
+  private static void countWhatCallsMake() {
+    com.sun.management.ThreadMXBean threads =
+        (com.sun.management.ThreadMXBean) java.lang.management.ManagementFactory.getThreadMXBean();
+    long made = 0;
+    for (int run = 0; run < 3; run++) {
+      TwigMerge x = full();
+      made = threads.getCurrentThreadAllocatedBytes();
+      for (int call = 0; call < 470; call += 5) {
+        x.diff(call % 3, (call + 1) % 3);
+        x.replay(12);
+        x.merge();
+        x.alike(0, 0, 1, 0);
+        x.equal(2);
+      }
+      made = threads.getCurrentThreadAllocatedBytes() - made;
+    }
+    expect("hardly any bytes are made by calls, not " + made, made < 4096);
+  }
+
   private static void call(TwigMerge x, Method method, Object[] arguments)
       throws ReflectiveOperationException {
     try {
@@ -109,6 +139,7 @@ public final class FaceTest {
   public static void main(String[] args) throws ReflectiveOperationException {
     lookAtMembers();
     callAnything();
+    countWhatCallsMake();
     System.out.println(wrong == 0 ? "all of it holds" : wrong + " things do not hold");
     if (wrong != 0) {
       System.exit(1);

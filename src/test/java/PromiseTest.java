@@ -1,71 +1,7 @@
 /** Runs of calls for each promise, with answers that were worked out by hand from the document. */
-public final class PromiseTest {
-  private static int wrong = 0;
-  private static String part = "";
-
-  private static void due(String call, Object got, Object want) {
-    if (!got.equals(want)) {
-      wrong++;
-      System.out.println(part + ": " + call + " answered " + got + ", due is " + want);
-    }
-  }
-
-  /** Fills a tree with rows of parent, type and label. */
-  private static void load(TwigMerge x, int tree, int... rows) {
-    due("clear(" + tree + ")", x.clear(tree), true);
-    for (int i = 0; i < rows.length; i += 3) {
-      due("add to tree " + tree, x.add(tree, rows[i], rows[i + 1], rows[i + 2]), i / 3);
-    }
-  }
-
-  private static String partners(TwigMerge x, int nodes) {
-    StringBuilder text = new StringBuilder();
-    for (int n = 0; n < nodes; n++) {
-      text.append(n == 0 ? "" : " ").append(x.partner(n));
-    }
-    return text.toString();
-  }
-
-  /** I node parent behind type label; U node label; M node parent behind; D node. */
-  private static String script(TwigMerge x) {
-    StringBuilder text = new StringBuilder();
-    for (int k = 0; x.step(k, 0) != -2; k++) {
-      int kind = x.step(k, 0);
-      text.append(k == 0 ? "" : ", ").append("IUMD".charAt(kind)).append(' ').append(x.step(k, 1));
-      if (kind == 0 || kind == 2) {
-        text.append(' ').append(x.step(k, 2)).append(' ').append(x.step(k, 3));
-      } else {
-        due("parts 2 and 3 of step " + k, x.step(k, 2) + " " + x.step(k, 3), "-1 -1");
-      }
-      if (kind == 0) {
-        text.append(' ').append(x.step(k, 4));
-      } else {
-        due("part 4 of step " + k, x.step(k, 4), -1);
-      }
-      if (kind < 2) {
-        text.append(' ').append(x.step(k, 5));
-      } else {
-        due("part 5 of step " + k, x.step(k, 5), 0);
-      }
-    }
-    return text.toString();
-  }
-
-  /** Each node of the result: number:parent/place/type/label. No run here makes more than 16. */
-  private static String result(TwigMerge x) {
-    StringBuilder text = new StringBuilder();
-    for (int n = 0; n < 16; n++) {
-      if (x.node(n, 0) != -2) {
-        text.append(text.length() == 0 ? "" : " ").append(n).append(':').append(x.node(n, 0));
-        text.append('/').append(x.node(n, 1)).append('/').append(x.node(n, 2));
-        text.append('/').append(x.node(n, 3));
-      }
-    }
-    return text.toString();
-  }
-
+public final class PromiseTest extends Trial {
   private static void promise1() {
-    part = "promise 1, a new object";
+    about("promise 1, a new object");
     TwigMerge x = new TwigMerge();
     for (int t = 0; t < 3; t++) {
       due("size", x.size(t), 0);
@@ -85,7 +21,7 @@ public final class PromiseTest {
   }
 
   private static void promise2() {
-    part = "promise 2, add";
+    about("promise 2, add");
     TwigMerge x = new TwigMerge();
     due("a parent in an empty tree", x.add(0, 0, 0, 0), -1);
     due("no tree -1", x.add(-1, -1, 0, 0), -1);
@@ -114,7 +50,7 @@ public final class PromiseTest {
   }
 
   private static void promise3() {
-    part = "promise 3, clear";
+    about("promise 3, clear");
     TwigMerge x = new TwigMerge();
     load(x, 0, -1, 0, 0, 0, 1, 1);
     load(x, 1, -1, 2, 0);
@@ -134,14 +70,14 @@ public final class PromiseTest {
   }
 
   private static void promises4And5() {
-    part = "promise 4, size";
+    about("promise 4, size");
     TwigMerge x = new TwigMerge();
     load(x, 2, -1, 0, 0, 0, 1, 1, 0, 1, 1, 2, 1, 1, 3, 1, 1, 1, 1, 1);
     due("size(2)", x.size(2), 6);
     due("size(0)", x.size(0), 0);
     due("size(-1)", x.size(-1), -1);
     due("size(3)", x.size(3), -1);
-    part = "promise 5, height";
+    about("promise 5, height");
     due("root", x.height(2, 0), 4);
     due("node 1", x.height(2, 1), 2);
     due("node 2", x.height(2, 2), 3);
@@ -158,7 +94,7 @@ public final class PromiseTest {
   }
 
   private static void promise6() {
-    part = "promise 6, alike";
+    about("promise 6, alike");
     TwigMerge x = new TwigMerge();
     load(x, 0, -1, 0, 0, 0, 1, 1, 0, 1, 2, 1, 2, 3);
     load(x, 1, -1, 0, 0, 0, 1, 1, 1, 2, 3, 0, 1, 2);
@@ -185,7 +121,7 @@ public final class PromiseTest {
   }
 
   private static void promise7() {
-    part = "promise 7, diff";
+    about("promise 7, diff");
     TwigMerge x = new TwigMerge();
     load(x, 0, -1, 0, 0, 0, 1, 1);
     load(x, 1, -1, 0, 0, 0, 1, 5);
@@ -209,7 +145,7 @@ public final class PromiseTest {
   }
 
   private static void alikePartners() {
-    part = "promise 8, partners that are alike";
+    about("promise 8, partners that are alike");
     TwigMerge x = new TwigMerge();
     load(x, 0, -1, 0, 0, 0, 1, 1, 1, 3, 3, 2, 3, 4, 1, 4, 4, 4, 4, 5, 5, 4, 6);
     load(x, 1, -1, 0, 0, 0, 1, 8, 1, 3, 3, 2, 3, 4, 0, 1, 9, 4, 3, 3, 5, 3, 4, 4, 4, 4, 7, 4, 5,
@@ -237,7 +173,7 @@ public final class PromiseTest {
   }
 
   private static void sharePartners() {
-    part = "promise 8, partners by their share";
+    about("promise 8, partners by their share");
     TwigMerge x = new TwigMerge();
     load(x, 0, -1, 0, 0, 0, 1, 1, 1, 2, 2, 2, 2, 3);
     load(x, 1, -1, 5, 0, 0, 1, 1, 1, 2, 2, 2, 2, 3, 1, 3, 1, 1, 3, 2, 1, 3, 3, 1, 3, 4);
@@ -267,7 +203,7 @@ public final class PromiseTest {
   }
 
   private static void pairedPartners() {
-    part = "promise 8, roots and their children";
+    about("promise 8, roots and their children");
     TwigMerge x = new TwigMerge();
     load(x, 0, -1, 0, 0, 0, 1, 1, 0, 1, 2, 0, 2, 5, 0, 1, 3);
     load(x, 1, -1, 0, 3, 0, 1, 2, 0, 1, 9, 0, 2, 6);
@@ -296,7 +232,7 @@ public final class PromiseTest {
   }
 
   private static void promise9() {
-    part = "promise 9, step";
+    about("promise 9, step");
     TwigMerge x = new TwigMerge();
     load(x, 0, -1, 0, 0, 0, 1, 1, 0, 1, 2, 0, 1, 3, 0, 1, 4);
     load(x, 1, -1, 0, 0, 0, 1, 2, 0, 1, 1, 0, 1, 4, 0, 1, 3);
@@ -325,7 +261,7 @@ public final class PromiseTest {
     due("step(2, 0)", x.step(2, 0), -2);
     due("step(0, -1)", x.step(0, -1), -2);
     due("step(0, 6)", x.step(0, 6), -2);
-    part = "promise 10, count";
+    about("promise 10, count");
     due("INSERTs", x.count(0), 0);
     due("UPDATEs", x.count(1), 0);
     due("MOVEs", x.count(2), 1);
@@ -338,7 +274,7 @@ public final class PromiseTest {
   }
 
   private static void promise11() {
-    part = "promise 11, replay";
+    about("promise 11, replay");
     TwigMerge x = new TwigMerge();
     load(x, 0, -1, 0, 0, 0, 1, 1, 1, 2, 2, 2, 2, 3, 0, 3, 3, 4, 3, 4, 0, 5, 5);
     load(x, 1, -1, 0, 0, 0, 3, 3, 1, 3, 4, 0, 4, 4, 3, 1, 9, 4, 2, 2, 5, 2, 3);
@@ -367,22 +303,8 @@ public final class PromiseTest {
     due("equal(1)", x.equal(1), true);
   }
 
-  /** Merges three trees in a new object: the answer of merge, and the result behind it. */
-  private static String merged(int[] base, int[] left, int[] right) {
-    TwigMerge x = new TwigMerge();
-    load(x, 0, base);
-    load(x, 1, left);
-    load(x, 2, right);
-    int answer = x.merge();
-    return answer + " " + result(x);
-  }
-
-  private static int[] tree(int... rows) {
-    return rows;
-  }
-
   private static void mergeInserts() {
-    part = "promise 12, merge with INSERTs";
+    about("promise 12, merge with INSERTs");
     int[] root = tree(-1, 0, 0);
     int[] two = tree(-1, 0, 0, 0, 1, 1);
     due("taken", merged(root, tree(-1, 0, 0, 0, 1, 1, 1, 2, 2),
@@ -412,7 +334,7 @@ public final class PromiseTest {
   }
 
   private static void mergeUpdatesAndDeletes() {
-    part = "promise 12, merge with UPDATEs and DELETEs";
+    about("promise 12, merge with UPDATEs and DELETEs");
     int[] root = tree(-1, 0, 0);
     int[] two = tree(-1, 0, 0, 0, 1, 1);
     int[] updated = tree(-1, 0, 0, 0, 1, 5);
@@ -436,7 +358,7 @@ public final class PromiseTest {
   }
 
   private static void mergeMoves() {
-    part = "promise 12, merge with MOVEs";
+    about("promise 12, merge with MOVEs");
     int[] base = tree(-1, 0, 0, 0, 1, 1, 1, 1, 2, 0, 2, 2, 3, 3, 3, 4, 3, 4);
     int[] intoSecond = tree(-1, 0, 0, 0, 2, 2, 1, 1, 1, 2, 1, 2, 1, 3, 3, 4, 3, 4);
     int[] intoFirst = tree(-1, 0, 0, 0, 1, 1, 1, 2, 2, 2, 3, 3, 3, 3, 4, 1, 1, 2);
@@ -460,7 +382,7 @@ public final class PromiseTest {
   }
 
   private static void mergeState() {
-    part = "promise 12, merge and what was found before";
+    about("promise 12, merge and what was found before");
     TwigMerge x = new TwigMerge();
     load(x, 0, -1, 0, 0, 0, 1, 1);
     load(x, 1, -1, 0, 0, 0, 1, 5);
@@ -489,7 +411,7 @@ public final class PromiseTest {
   }
 
   private static void promises13And14() {
-    part = "promise 13, node";
+    about("promise 13, node");
     TwigMerge x = new TwigMerge();
     load(x, 0, -1, 0, 4, 0, 1, -2);
     load(x, 1, -1, 2, 0);
@@ -504,7 +426,7 @@ public final class PromiseTest {
     due("what -1", x.node(0, -1), -2);
     due("what 4", x.node(0, 4), -2);
     due("node 36", x.node(36, 0), -2);
-    part = "promise 14, equal";
+    about("promise 14, equal");
     due("alike to FROM", x.equal(0), true);
     due("not alike to TO", x.equal(1), false);
     due("an empty tree", x.equal(2), false);
@@ -542,9 +464,6 @@ public final class PromiseTest {
     mergeMoves();
     mergeState();
     promises13And14();
-    System.out.println(wrong == 0 ? "all answers are as due" : wrong + " answers are not as due");
-    if (wrong != 0) {
-      System.exit(1);
-    }
+    finish();
   }
 }
